@@ -72,7 +72,6 @@ public final class TopologyDesk {
     private int pieceLength;
 
     public TopologyDesk() {
-        pieceLength = 0;
         for (int slot = 0; slot < SLOTS; slot++) {
             settle(slot, EMPTY);
         }
