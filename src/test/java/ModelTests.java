@@ -603,7 +603,8 @@ public final class ModelTests {
             int name = pickFrom(0, 6);
             due(run, "pairs(" + name + ")", desk.pairs(name), model.pairs(name));
         }
-        System.out.println(wrong == 0 ? "all answers are as the model's" : wrong + " answers are not as the model's");
+        System.out.println(wrong == 0 ? "all answers are as the model's"
+                : wrong + " answers are not as the model's");
         if (wrong != 0) {
             System.exit(1);
         }
