@@ -918,6 +918,13 @@ public final class BoundaryTests {
         desk.line(0, v(4, 0), v(4, 1));
         desk.line(0, v(4, 7), v(4, 8));
         due("pieces(0)", desk.pieces(0), 4);
+        desk = sentence(17, "one of their coordinates different by 1 (not by 2)");
+        desk.rectangle(0, v(2, 2), v(6, 6));
+        desk.outline(0, 0);
+        desk.rectangle(1, v(3, 3), v(5, 5));
+        desk.outline(1, 1);
+        due("combine(0, 1, 0)", desk.combine(0, 1, 0), 24);
+        due("pieces(0)", desk.pieces(0), 2);
         desk = sentence(17, "by steps .. all of them in the body (a long way about)");
         desk.rectangle(0, 0, 80);
         for (int x = 1; x < 8; x += 2) {
