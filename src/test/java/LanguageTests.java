@@ -4,7 +4,9 @@ import java.lang.reflect.Method;
 import java.lang.reflect.Modifier;
 import java.nio.file.Files;
 import java.nio.file.Path;
+import java.util.Map;
 import java.util.Set;
+import java.util.TreeMap;
 import java.util.TreeSet;
 import java.util.regex.Matcher;
 import java.util.regex.Pattern;
@@ -16,6 +18,8 @@ public final class LanguageTests {
             "cut/3", "combine/3", "grow/1", "fill/1", "outline/2", "kind/1", "size/1", "part/3",
             "relate/2", "is/3", "pairs/1", "pieces/1", "holes/1", "rim/1", "apart/2", "nearest/1",
             "inWindow/3");
+
+    private static final int DEEPEST = 6;
 
     private static int wrong = 0;
 
@@ -67,6 +71,8 @@ public final class LanguageTests {
                 count++;
                 check("rule 2: type of " + field,
                         plain.contains(type.isArray() ? type.getComponentType() : type));
+                check("rule 4: no method assigns to " + field,
+                        !type.isArray() || Modifier.isFinal(field.getModifiers()));
             }
         }
         check("rule 10: forty fields", count <= 40);
@@ -86,6 +92,57 @@ public final class LanguageTests {
                     made.group(1).contains("private final"));
         }
         checkNestedCalls(text);
+        checkLoops(text);
+        checkCalls(methodsOf(text));
+    }
+
+    /** Rule 8: a loop that counts against a bound; this class needs no other kind. */
+    private static void checkLoops(String text) {
+        Matcher loop = Pattern.compile("\\b(?:while|do|for)\\b[^\n]*").matcher(text);
+        Pattern counted = Pattern.compile(
+                "for \\(int (\\w+) = [^;]*; \\1 <=? \\w+(?: && [^;]*)?; \\1(?:\\+\\+| \\+= 2)\\) \\{");
+        while (loop.find()) {
+            check("rule 8: the end of " + loop.group(), counted.matcher(loop.group()).matches());
+        }
+    }
+
+    /** The text of each method and of the constructor, by name. */
+    private static Map<String, String> methodsOf(String text) {
+        Map<String, String> methods = new TreeMap<>();
+        String head = "^    (?:public|private)[^;={}]*?\\b(\\w+)\\([^)]*\\) \\{$";
+        Matcher method = Pattern.compile("(?ms)" + head + ".*?^    \\}$").matcher(text);
+        while (method.find()) {
+            check("one method of the name " + method.group(1),
+                    methods.put(method.group(1), method.group()) == null);
+        }
+        int declared = TopologyDesk.class.getDeclaredMethods().length
+                + TopologyDesk.class.getDeclaredConstructors().length;
+        check("all methods are found in the text, not " + methods.keySet(), methods.size() == declared);
+        return methods;
+    }
+
+    /** Rules 8 and 10: no method comes back to itself, calls go six deep, methods are short. */
+    private static void checkCalls(Map<String, String> methods) {
+        Map<String, Set<String>> calls = new TreeMap<>();
+        methods.forEach((name, body) -> {
+            check("rule 10: sixty lines in " + name, body.lines().count() <= 60);
+            Set<String> called = new TreeSet<>();
+            Matcher call = Pattern.compile("\\b(\\w+)\\(").matcher(body.substring(body.indexOf('{')));
+            while (call.find()) {
+                if (methods.containsKey(call.group(1))) {
+                    called.add(call.group(1));
+                }
+            }
+            calls.put(name, called);
+        });
+        Set<String> level = new TreeSet<>(methods.keySet());
+        // Whoever is still called after so many steps is called too deep, or calls itself.
+        for (int depth = 1; depth <= DEEPEST; depth++) {
+            Set<String> below = new TreeSet<>();
+            level.forEach(name -> below.addAll(calls.get(name)));
+            level = below;
+        }
+        check("rules 8 and 10: calls go more than six deep, to " + level, level.isEmpty());
     }
 
     /** Rule 10: within the parentheses of a call stands no other call. */

@@ -14,6 +14,8 @@ import java.util.TreeSet;
 public final class ModelTests {
     private static final int RUNS = 400;
     private static final int CALLS = 512;
+    private static final int PERFORATED = 6;
+    private static final int CUTS = 16;
 
     record Element(int i, int j) {
         int dimension() {
@@ -508,6 +510,7 @@ public final class ModelTests {
     }
 
     private static int wrong = 0;
+    private static int calls = 0;
     private static long state = 1;
 
     /** A fixed sequence of numbers, so that each run of the tests is the same. */
@@ -521,6 +524,7 @@ public final class ModelTests {
     }
 
     private static void due(int run, String call, int got, int want) {
+        calls++;
         if (got != want) {
             wrong++;
             System.out.println("run " + run + ": " + call + " answered " + got + ", the model " + want);
@@ -538,6 +542,43 @@ public final class ModelTests {
         return which == 0 ? 9 * (near / 9) + y : which == 1 ? 9 * x + near % 9 : 9 * x + y;
     }
 
+    private static void rectangle(int run, TopologyDesk desk, Model model, int s, int a, int b) {
+        due(run, "rectangle(" + s + ", " + a + ", " + b + ")",
+                desk.rectangle(s, a, b), model.rectangle(s, a, b));
+    }
+
+    private static void cut(int run, TopologyDesk desk, Model model, int s, int a, int b) {
+        due(run, "cut(" + s + ", " + a + ", " + b + ")", desk.cut(s, a, b), model.cut(s, a, b));
+    }
+
+    private static void fill(int run, TopologyDesk desk, Model model, int s) {
+        due(run, "fill(" + s + ")", desk.fill(s), model.fill(s));
+    }
+
+    private static void pieces(int run, TopologyDesk desk, Model model, int s) {
+        due(run, "pieces(" + s + ")", desk.pieces(s), model.pieces(s));
+    }
+
+    private static void holes(int run, TopologyDesk desk, Model model, int s) {
+        due(run, "holes(" + s + ")", desk.holes(s), model.holes(s));
+    }
+
+    /** A great area with single cells cut out: calls by chance alone hardly ever leave a hole. */
+    private static void perforate(int run, TopologyDesk desk, Model model, int s) {
+        rectangle(run, desk, model, s, 9 * pick(3) + pick(3), 80 - 9 * pick(3) - pick(3));
+        for (int cell = 0; cell < CUTS; cell++) {
+            int corner = 9 * pick(8) + pick(8);
+            cut(run, desk, model, s, corner, corner + 10);
+        }
+        holes(run, desk, model, s);
+        pieces(run, desk, model, s);
+        // The others keep their holes for the calls that follow.
+        if (pick(2) == 0) {
+            fill(run, desk, model, s);
+            holes(run, desk, model, s);
+        }
+    }
+
     private static void change(int run, TopologyDesk desk, Model model) {
         int s = pickFrom(0, 11);
         int o = pick(8) == 0 ? s : pickFrom(0, 11);
@@ -549,14 +590,12 @@ public final class ModelTests {
             case 1, 2, 3 -> due(run, "point(" + s + ", " + a + ")", desk.point(s, a), model.point(s, a));
             case 4, 5, 6, 7 -> due(run, "line(" + s + ", " + a + ", " + b + ")",
                     desk.line(s, a, b), model.line(s, a, b));
-            case 8, 9, 10, 11 -> due(run, "rectangle(" + s + ", " + a + ", " + b + ")",
-                    desk.rectangle(s, a, b), model.rectangle(s, a, b));
-            case 12, 13, 14, 15 -> due(run, "cut(" + s + ", " + a + ", " + b + ")",
-                    desk.cut(s, a, b), model.cut(s, a, b));
+            case 8, 9, 10, 11 -> rectangle(run, desk, model, s, a, b);
+            case 12, 13, 14, 15 -> cut(run, desk, model, s, a, b);
             case 16, 17, 18 -> due(run, "combine(" + s + ", " + o + ", " + how + ")",
                     desk.combine(s, o, how), model.combine(s, o, how));
             case 19 -> due(run, "grow(" + s + ")", desk.grow(s), model.grow(s));
-            case 20, 21 -> due(run, "fill(" + s + ")", desk.fill(s), model.fill(s));
+            case 20, 21 -> fill(run, desk, model, s);
             default -> due(run, "outline(" + s + ", " + o + ")", desk.outline(s, o), model.outline(s, o));
         }
     }
@@ -578,8 +617,8 @@ public final class ModelTests {
             case 4, 5 -> due(run, "relate(" + s + ", " + o + ")", desk.relate(s, o), model.relate(s, o));
             case 6, 7, 8 -> due(run, "is(" + s + ", " + o + ", " + name + ")",
                     desk.is(s, o, name), model.is(s, o, name));
-            case 9 -> due(run, "pieces(" + s + ")", desk.pieces(s), model.pieces(s));
-            case 10, 11 -> due(run, "holes(" + s + ")", desk.holes(s), model.holes(s));
+            case 9 -> pieces(run, desk, model, s);
+            case 10, 11 -> holes(run, desk, model, s);
             case 12 -> due(run, "rim(" + s + ")", desk.rim(s), model.rim(s));
             case 13 -> due(run, "apart(" + s + ", " + o + ")", desk.apart(s, o), model.apart(s, o));
             case 14 -> due(run, "nearest(" + s + ")", desk.nearest(s), model.nearest(s));
@@ -592,7 +631,12 @@ public final class ModelTests {
         for (int run = 0; run < RUNS && wrong < 20; run++) {
             TopologyDesk desk = new TopologyDesk();
             Model model = new Model();
-            for (int call = 0; call < CALLS - 1; call++) {
+            calls = 0;
+            int perforated = run % 2 == 0 ? 0 : PERFORATED;
+            for (int slot = 0; slot < perforated; slot++) {
+                perforate(run, desk, model, 2 * slot);
+            }
+            while (calls < CALLS - 1) {
                 if (pick(2) == 0) {
                     change(run, desk, model);
                 } else {
